@@ -177,7 +177,7 @@ public final class LastLent {
             case 1: return ship.holders[c];
             case 2: return ship.days[c];
             case 3: return ship.amounts[c];
-            case 4: return ship.leaves[c] ? 1 : 0;
+            case 4: return bit(ship.leaves, c);
             case 5: return ship.cargoSets[c];
             case 6: return ship.asked[c];
             case 7: return ship.voyageOf(c);
@@ -402,7 +402,19 @@ public final class LastLent {
         for (int k = 0; k < ship.claims; k++) {
             paidBefore[k] = payOut.paidTo(k);
         }
-        return c == NONE ? mostHangsOn(land, d, way, what) : hangsOn(land, d, way, c, what);
+        if (c != NONE) {
+            return hangsOn(land, d, way, c, what);
+        }
+        int mostClaim = NONE;
+        int most = 0;
+        for (int k = 0; k < ship.claims; k++) {
+            int change = hangsOn(land, d, way, k, what);
+            if (change > most) {
+                most = change;
+                mostClaim = k;
+            }
+        }
+        return mostClaim;
     }
 
     // ---- images
@@ -467,24 +479,12 @@ public final class LastLent {
         return wise;
     }
 
-    private int mostHangsOn(int land, int d, int way, int what) {
-        int mostClaim = NONE;
-        int most = 0;
-        for (int c = 0; c < ship.claims; c++) {
-            int change = hangsOn(land, d, way, c, what);
-            if (change > most) {
-                most = change;
-                mostClaim = c;
-            }
-        }
-        return mostClaim;
-    }
-
+    /** How far what the others are paid goes away from paidBefore. */
     private int hangsOn(int land, int d, int way, int c, int what) {
         supposed.become(ship);
         switch (what) {
             case 0: supposed.takeAway(c); break;
-            case 1: supposed.leaves[c] = !supposed.leaves[c]; break;
+            case 1: supposed.leaves ^= 1 << c; break;
             case 2: supposed.days[c] = Math.min(LAST_DAY, supposed.days[c] + 1); break;
             default: supposed.asked[c] = d; break;
         }
@@ -684,7 +684,10 @@ public final class LastLent {
             int clauses = 0;
             nextToken();
             while (token != END && faultNumber == NO_FAULT && clauses < TEXT_LIMIT) {
-                readClause(law);
+                int clause = beginClause(law);
+                if (clause != NONE && readBody(clause, law)) {
+                    readClose();
+                }
                 clauses++;
                 nextToken();
             }
@@ -692,18 +695,19 @@ public final class LastLent {
             return clauses;
         }
 
-        private void readClause(Law law) {
+        /** The clause whose first word is looked at; NONE, with a fault, if it cannot begin there. */
+        private int beginClause(Law law) {
             int clause = wordIn(CLAUSE_WORDS);
             if (clause == NONE) {
                 refuse(CANNOT_STAND);
-            } else if (isOneTooMany(clause, law)) {
-                refuse(TOLD_AGAIN);
-            } else {
-                clausesTold |= 1 << clause;
-                if (readBody(clause, law)) {
-                    readClose();
-                }
+                return NONE;
             }
+            if (isOneTooMany(clause, law)) {
+                refuse(TOLD_AGAIN);
+                return NONE;
+            }
+            clausesTold |= 1 << clause;
+            return clause;
         }
 
         private boolean isOneTooMany(int clause, Law law) {
@@ -959,13 +963,14 @@ public final class LastLent {
     private static final class Ship {
         int voyages;
         int claims;
+        /** The set of claims with leave. */
+        int leaves;
         final int[] begins = new int[VOYAGE_LIMIT];
         final int[] ends = new int[VOYAGE_LIMIT];
         final int[] kinds = new int[CLAIM_LIMIT];
         final int[] holders = new int[CLAIM_LIMIT];
         final int[] days = new int[CLAIM_LIMIT];
         final int[] amounts = new int[CLAIM_LIMIT];
-        final boolean[] leaves = new boolean[CLAIM_LIMIT];
         final int[] cargoSets = new int[CLAIM_LIMIT];
         final int[] asked = new int[CLAIM_LIMIT];
         final int[] sums = new int[FUNDS];
@@ -974,13 +979,13 @@ public final class LastLent {
         void become(Ship other) {
             voyages = other.voyages;
             claims = other.claims;
+            leaves = other.leaves;
             copyRow(other.begins, begins);
             copyRow(other.ends, ends);
             copyRow(other.kinds, kinds);
             copyRow(other.holders, holders);
             copyRow(other.days, days);
             copyRow(other.amounts, amounts);
-            System.arraycopy(other.leaves, 0, leaves, 0, CLAIM_LIMIT);
             copyRow(other.cargoSets, cargoSets);
             copyRow(other.asked, asked);
             copyRow(other.sums, sums);
@@ -1005,7 +1010,7 @@ public final class LastLent {
             holders[claims] = holder;
             days[claims] = day;
             amounts[claims] = amount;
-            leaves[claims] = leave;
+            leaves = leave ? leaves | 1 << claims : leaves & ~(1 << claims);
             cargoSets[claims] = cargoSet;
             asked[claims] = NONE;
             claims++;
@@ -1067,7 +1072,7 @@ public final class LastLent {
         }
 
         private boolean lacksLeave(Law law, int c) {
-            return bit(law.needLeave, kinds[c]) == 1 && !leaves[c];
+            return bit(law.needLeave, kinds[c]) == 1 && bit(leaves, c) == 0;
         }
     }
 
@@ -1075,6 +1080,7 @@ public final class LastLent {
     private static final class PayOut {
         /** So many orders have five funds. */
         private static final int ORDERS = 120;
+        private static final int ALL_FUNDS = (1 << FUNDS) - 1;
 
         /** The claims that live, those ahead first, like ones by their numbers. */
         private final int[] line = new int[CLAIM_LIMIT];
@@ -1171,13 +1177,17 @@ public final class LastLent {
             payAllFrom(0);
         }
 
-        /** No order pays more than all that is wanted, or than each fund can by itself. */
+        /** Whatever set of funds is emptied, no order pays more than that and what is wanted of the others. */
         private int mostPayable() {
-            int byFunds = 0;
-            for (int f = 0; f < FUNDS; f++) {
-                byFunds += Math.min(sums[f], wantedOf(1 << f));
+            int least = wantedOf(ALL_FUNDS);
+            for (int emptied = 1; emptied <= ALL_FUNDS; emptied++) {
+                int payable = wantedOf(ALL_FUNDS & ~emptied);
+                for (int f = 0; f < FUNDS; f++) {
+                    payable += sums[f] * bit(emptied, f);
+                }
+                least = Math.min(least, payable);
             }
-            return Math.min(byFunds, wantedOf((1 << FUNDS) - 1));
+            return least;
         }
 
         private int wantedOf(int fundSet) {

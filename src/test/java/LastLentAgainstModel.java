@@ -1004,7 +1004,9 @@ public final class LastLentAgainstModel {
         same(x.paid(land, d, way, c), m.paid(land, d, way, c), "paid", land, d, way, c);
         same(x.left(land, d, way, f), m.left(land, d, way, f), "left", land, d, way, f);
         same(x.has(land, d, way, h), m.has(land, d, way, h), "has", land, d, way, h);
-        same(x.order(land, d, way, f), m.order(land, d, way, f), "order", land, d, way, f);
+        for (int i = 0; i < 5; i++) {
+            same(x.order(land, d, way, i), m.order(land, d, way, i), "order", land, d, way, i);
+        }
         same(x.back(land, d, way, cargo, what), m.back(land, d, way, cargo, what), "back", land, d, way, cargo, what);
     }
 
@@ -1036,6 +1038,10 @@ public final class LastLentAgainstModel {
     private int go() {
         for (int land = 0; land < 4; land++) {
             tellLaw();
+        }
+        // Some ships are laden before they are looked at, so that funds are too small for all.
+        for (int c = run % 2 * 12; c > 0; c--) {
+            build();
         }
         for (int turn = 0; turn < 26; turn++) {
             build();

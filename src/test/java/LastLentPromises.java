@@ -82,6 +82,7 @@ public final class LastLentPromises {
         more();
         hang();
         images();
+        fullShip();
         System.out.println(asked + " answers, " + wrong + " not as due");
         if (wrong != 0) {
             System.exit(1);
@@ -202,6 +203,11 @@ public final class LastLentPromises {
         faulty("sale 1;", 1, 5);
         faulty("sale later;", 1, 5);
         faulty("saleship;", 1, 0);
+        faulty("salez;", 1, 0);
+        faulty("sale`;", 1, 4);
+        faulty("sale{;", 1, 4);
+        faulty("costs /;", 1, 6);
+        faulty("costs :;", 1, 6);
         faulty("ridesridesrides", 1, 0);
         faulty("rides", 1, 5);
         faulty("rides ship;", 1, 6);
@@ -217,6 +223,7 @@ public final class LastLentPromises {
         faulty("rides wage ship freight ship cargo;", 3, 24);
         faulty("rides wage ship;rides wage ship;", 3, 22);
         faulty("rides wage ship;rides wage;", 3, 22);
+        faulty("rides wage ship;rides rope ship;rides wage ship;", 3, 38);
         faulty("ahead wage;", 1, 10);
         faulty("ahead wage wage;", 3, 11);
         faulty("ahead wage wages;", 1, 11);
@@ -229,6 +236,8 @@ public final class LastLentPromises {
         faulty("first wage;behind wage;", 3, 18);
         faulty("behind wage;behind wage;", 3, 19);
         faulty("behind wage;first wage;", 3, 18);
+        faulty("first wage;first rope;first wage;", 3, 28);
+        faulty("behind wage;behind rope;first wage;", 3, 30);
         faulty("first ship;", 1, 6);
         faulty("later;later;", 3, 6);
         faulty("later; later", 3, 7);
@@ -238,6 +247,10 @@ public final class LastLentPromises {
         faulty("within parts;within parts;", 3, 13);
         faulty("within parts;within x;", 3, 13);
         faulty("sale;sale;", 3, 5);
+        faulty("sale;later;within parts;costs 5;sale;", 3, 32);
+        faulty("first ;", 1, 6);
+        faulty("behind first;", 1, 7);
+        faulty("ahead ;", 1, 6);
         faulty("costs;", 1, 5);
         faulty("costs -1;", 1, 6);
         faulty("costs wage;", 1, 6);
@@ -257,6 +270,8 @@ public final class LastLentPromises {
         faulty("dies wage 0001;", 2, 10);
         faulty("dies wage 5;dies wage 6;", 3, 17);
         faulty("dies wage 5;dies wage 0;", 3, 17);
+        faulty("dies wage 5;dies rope 5;dies wage 5;", 3, 29);
+        faulty("leave wage;leave rope;leave wage;", 3, 28);
         faulty("leave;", 1, 5);
         faulty("leave wage;leave wage;", 3, 17);
         faulty("leave wage 3;", 1, 11);
@@ -529,8 +544,10 @@ public final class LastLentPromises {
         x.claim(ROPE, 0, 995, 10, true, 0);
         due("17: its ten days go over 999", x.last(0, 1), 999);
         due("17: with leave", x.last(2, 1), 999);
+        x.claim(WAGE, 0, 999, 10, true, 0);
+        due("17: of day 999", x.last(0, 2), 999);
         due("17: last(4, 0)", x.last(4, 0), UNKNOWN);
-        due("17: last(0, 2)", x.last(0, 2), UNKNOWN);
+        due("17: last(0, 3)", x.last(0, 3), UNKNOWN);
         due("17: last(0, NONE)", x.last(0, NONE), UNKNOWN);
     }
 
@@ -564,6 +581,13 @@ public final class LastLentPromises {
         due("18: under a law that tells nothing", x.ahead(1, old, dues0), 0);
         tell(x, 2, "within sooner;", 1);
         due("18: within by the sooner day", x.ahead(2, wageLater, wage0), -1);
+        LastLent y = new LastLent();
+        tell(y, 0, "ahead wage rope;within later;later;", 3);
+        y.claim(WAGE, 0, 0, 10, true, 0);
+        y.claim(ROPE, 0, 999, 10, true, 0);
+        due("18: the rank decides ahead of any day", y.ahead(0, 0, 1), 1);
+        y.voyage(999, 999);
+        due("18: the voyage decides ahead of the rank", y.ahead(0, 0, 1), -1);
         due("18: ahead(4, 0, 0)", x.ahead(4, 0, 0), UNKNOWN);
         due("18: ahead(0, 10, 0)", x.ahead(0, 10, 0), UNKNOWN);
         due("18: ahead(0, 0, -1)", x.ahead(0, 0, -1), UNKNOWN);
@@ -695,6 +719,28 @@ public final class LastLentPromises {
         x.fund(0, 160);
         for (int i = 0; i < 5; i++) {
             due("23: marshalled, where straight pays all", x.order(0, 9, 1, i), i);
+        }
+        LastLent y = new LastLent();
+        tell(y, 0, "rides wage freight cargo;rides rope freight;rides pilot cargo;", 3);
+        y.claim(WAGE, 1, 1, 10, true, 4);
+        y.claim(ROPE, 2, 1, 10, true, 0);
+        y.claim(PILOT, 3, 1, 10, true, 4);
+        y.fund(1, 15);
+        y.fund(4, 15);
+        // Either fund first: 8 and 7 of it, then 2 and 10 of the other; in no order all 30 are paid.
+        due("23: no order pays all", y.has(0, 9, 1, NONE), 27);
+        for (int i = 0; i < 5; i++) {
+            due("23: of like ones the first", y.order(0, 9, 1, i), i);
+        }
+        y.fund(4, 14);
+        // Freight first: 8, 7, then 2, 10. Cargo 2 first: 7, 7, then 3, 10. Both 27.
+        due("23: both 27", y.has(0, 9, 1, NONE), 27);
+        y.fund(1, 13);
+        // Freight first: 7, 6, then 3, 10 are 26; cargo 2 first: 7, 7, then 3, 10 are 27.
+        due("23: cargo 2 first", y.has(0, 9, 1, NONE), 27);
+        int[] cargoFirst = {0, 2, 3, 4, 1};
+        for (int i = 0; i < 5; i++) {
+            due("23: cargo 2 ahead of freight", y.order(0, 9, 1, i), cargoFirst[i]);
         }
         refusedByLandDayWay("23: order", x.order(4, 0, 0, 0), x.order(0, 1000, 0, 0), x.order(0, 0, 2, 0),
             x.order(-1, -1, -1, 0));
@@ -877,10 +923,15 @@ public final class LastLentPromises {
         // From day 11 on it is the new voyage's: pilot 40 and wage 30 of 60 are 34 and 25, and the one over.
         due("29: a claim of the new voyage", x.more(1, 10, 0, 3, 2, 20, 30, 40, 0), 3500);
         due("29: the wage of the new voyage", x.more(1, 10, 0, 2, 2, 20, 30, 40, 0), 2500);
-        // Now rope and pilot are 34 and 26 of 60; then the wage has 30, and they are 17 and 13 of 30.
+        // On day 12 rope and pilot are 34 and 26 of 60; then the wage has 30, and they are 17 and 13 of 30.
+        due("29: wise for two", x.more(1, 10, 0, NONE, 2, 20, 30, 40, 0), 12);
+        due("29: a voyage from day 12 on", x.more(1, 11, 0, 3, 2, 20, 30, 40, 0), 3500);
         due("29: from day 13 on it is not", x.more(1, 12, 0, 3, 2, 20, 30, 40, 0), -1300);
         due("29: the last voyage ends later", x.more(0, 9, 0, 1, 2, 20, 30, 40, 10), NOT);
         due("29: e is d", x.more(0, 9, 0, 1, 2, 9, 30, 40, 10), OUTSIDE);
+        due("29: a wage of 1", x.more(0, 10, 0, 2, 2, 20, 1, 40, 0), 100);
+        due("29: a wage of 999 has 60 of the ship and 40", x.more(0, 10, 0, 2, 2, 20, 999, 40, 0), 10000);
+        due("29: a freight of 9999", x.more(0, 10, 0, 2, 2, 20, 999, 9999, 0), 99900);
         due("29: e is 999", x.more(0, 998, 0, 5, 2, 999, 30, 40, 10), 0);
         due("29: e is 1000", x.more(0, 999, 0, 5, 2, 1000, 30, 40, 10), OUTSIDE);
         due("29: d is 1000", x.more(0, 1000, 0, 5, 2, 1001, 30, 40, 10), OUTSIDE);
@@ -914,6 +965,10 @@ public final class LastLentPromises {
             due("29: but 6 voyages there is room", y.more(0, 10, 0, 0, 2, 20, 30, 0, 10), 0);
             y.voyage(v, v);
         }
+        LastLent z = new LastLent();
+        tell(z, 0, "sale;", 1);
+        z.fund(0, 9);
+        due("29: the wage is asked for", z.more(0, 10, 0, 2, 2, 20, 30, 0, 0), 900);
         due("29: 6 voyages", y.more(0, 10, 0, 0, 2, 20, 30, 0, 10), NOT);
     }
 
@@ -941,6 +996,7 @@ public final class LastLentPromises {
         due("30: the wage a day later", x.hang(2, 9, 0, 1, 2), 19);
         // The rope a day later: wage 50, pilot 40; the pilot a day later: rope 40, wage 50.
         due("30: the rope a day later", x.hang(2, 9, 0, 0, 2), 21);
+        due("30: one day and no more: of day 7 it lives on 7", x.hang(0, 7, 0, 1, 2), 0);
         due("30: the pilot a day later", x.hang(2, 9, 0, 2, 2), 20);
         due("30: most by a day", x.hang(2, 9, 0, NONE, 2), 0);
         due("30: a day more and it does not live yet", x.hang(0, 6, 0, 1, 2), 30);
@@ -1026,5 +1082,44 @@ public final class LastLentPromises {
         x.fund(0, 6);
         x.goBack(1);
         due("31: what was kept last", x.count(4), 5);
+    }
+
+    /** Fourteen claims, five funds, six voyages: the last places of all rows. */
+    private static void fullShip() {
+        LastLent x = new LastLent();
+        tell(x, 0, "rides wage ship freight cargo;within sooner;", 2);
+        for (int v = 0; v < 6; v++) {
+            x.voyage(v, v);
+        }
+        for (int c = 0; c < 14; c++) {
+            x.claim(WAGE, c % 6, 3, 999, true, 7);
+        }
+        for (int f = 0; f < 5; f++) {
+            x.fund(f, 14);
+        }
+        for (int way = 0; way < 2; way++) {
+            due("20: the last of fourteen", x.paid(0, 9, way, 13), 5);
+            due("20: under a law that tells nothing", x.paid(1, 9, way, 13), 1);
+            due("21: all funds are empty", x.left(0, 9, way, 4), 0);
+            due("22: all have", x.has(0, 9, way, NONE), 70);
+            due("22: holder 1 has three", x.has(0, 9, way, 1), 15);
+            due("23: the first of like orders", x.order(0, 9, way, 4), 4);
+            due("24: all ride on the ship", x.back(0, 9, way, 2, 0), 14);
+            due("24: and nothing is left", x.back(0, 9, way, 2, 1), 0);
+            due("25: asked or not", x.wake(0, 9, way, 13, 9), 5);
+            due("26: most under land 0", x.best(9, way, 1, 0), 0);
+            due("27: 5 less 9", x.buy(0, 9, way, 1, 1, 1), NONE);
+            due("28: nothing is gained", x.clear(0, 9, way, 1, 1), NONE);
+            due("29: no room", x.more(0, 9, way, 1, 1, 20, 1, 1, 0), NOT);
+            // Of thirteen each has 1 of each fund, and the one that is over of it goes to claim 0.
+            due("30: without the last", x.hang(0, 9, way, 13, 0), 5);
+            due("30: on all hangs the same", x.hang(0, 9, way, NONE, 0), 0);
+        }
+        due("14: the last voyage", x.told(13, 7), 3);
+        due("15: amounts", x.count(3), 14 * 999);
+        due("19: one step", x.step(0, 9, 4, 13), 0);
+        x.keep(1);
+        x.goBack(1);
+        due("32: fourteen", x.count(1), 14);
     }
 }
