@@ -276,6 +276,17 @@ public final class LastLentPromises {
         faulty("leave wage;leave wage;", 3, 17);
         faulty("leave wage 3;", 1, 11);
         faulty("leave wage;x leave wage;", 1, 11);
+        String blanks = " ".repeat(230);
+        faulty(blanks + "     sale ", 1, 240);
+        faulty(blanks + "      sale", 1, 240);
+        faulty(blanks + "   costs 5", 1, 240);
+        faulty(blanks + " costs5 ;;", 1, 239);
+        sound(blanks + "     sale;", 1);
+        LastLent x = new LastLent();
+        tell(x, 0, "costs 123;", 1);
+        feedText(x, "costs 1");
+        due("3: a longer text before leaves nothing", x.law(0), -11);
+        due("4: at the text's length", x.fault(), 7);
     }
 
     private static void fault() {
