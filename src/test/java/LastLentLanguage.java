@@ -136,7 +136,7 @@ public final class LastLentLanguage {
         long before = threads.getThreadAllocatedBytes(thread);
         LastLent y = new LastLent();
         long made = threads.getThreadAllocatedBytes(thread);
-        for (int i = 0; i < 10; i++) {
+        for (int i = 0; i < 8; i++) {
             allCalls(y);
         }
         long after = threads.getThreadAllocatedBytes(thread);
